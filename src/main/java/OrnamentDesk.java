@@ -327,7 +327,8 @@ public final class OrnamentDesk {
         for (int y = 0; y < tile.high; y++) {
             for (int x = 0; x < tile.wide; x++) {
                 for (int colour = 0; colour < COLOURS; colour++) {
-                    int kinds = kindsIfPainted(x, y, colour);
+                    boolean other = colour != tile.colourAt(x, y);
+                    int kinds = other ? kindsIfPainted(x, y, colour) : fewest;
                     if (kinds < fewest) {
                         fewest = kinds;
                         best = 32 * y + 4 * x + colour;
@@ -386,7 +387,7 @@ public final class OrnamentDesk {
     private static int placeOf(long cells, int k) {
         int ahead = 0;
         for (int place = 0; place < PLACES; place++) {
-            if ((cells >>> place & 1L) != 0L) {
+            if (((cells >>> place) & 1L) != 0L) {
                 if (ahead == k) {
                     return place;
                 }
@@ -430,11 +431,12 @@ public final class OrnamentDesk {
     /** Bit s stands for the SHIFT s of the WAY. */
     private long shiftsOfWay(int way) {
         Tile tile = now.tile;
-        boolean upsideDown = way >= 2;
-        draft.turnFrom(tile, false, Net.turningOfWay(way));
+        if (!draft.turnFrom(tile, false, Net.turningOfWay(way))) {
+            return 0L;
+        }
         long steps = tile.stepsFrom(draft);
-        int row = upsideDown ? tile.high - 1 : 0;
-        return steps >>> (SIDE * row) & 255L;
+        int row = way >= 2 ? tile.high - 1 : 0;
+        return (steps >>> (SIDE * row)) & 255L;
     }
 
     private int stripClass() {
@@ -610,7 +612,9 @@ public final class OrnamentDesk {
         }
 
         long all() {
-            return FIRST_COLUMN * ((1L << wide) - 1L) & -1L >>> (PLACES - SIDE * high);
+            long columns = FIRST_COLUMN * ((1L << wide) - 1L);
+            long rows = -1L >>> (PLACES - SIDE * high);
+            return columns & rows;
         }
 
         long bitOfPlane(int x, int y) {
@@ -663,7 +667,7 @@ public final class OrnamentDesk {
             if (y == 0) {
                 return cells;
             }
-            return cells << (SIDE * y) & all() | cells >>> (SIDE * (high - y));
+            return ((cells << (SIDE * y)) & all()) | (cells >>> (SIDE * (high - y)));
         }
 
         // What a row's shift carries over into a neighbouring row lands where the masks cut it off.
@@ -672,7 +676,7 @@ public final class OrnamentDesk {
                 return cells;
             }
             long firstColumns = FIRST_COLUMN * ((1L << x) - 1L);
-            return cells << x & all() & ~firstColumns | cells >>> (wide - x) & firstColumns;
+            return ((cells << x) & all() & ~firstColumns) | ((cells >>> (wide - x)) & firstColumns);
         }
 
         boolean comesAgainBy(int x, int y) {
@@ -728,8 +732,8 @@ public final class OrnamentDesk {
                 for (int x = 0; x < wide; x++) {
                     int from = SIDE * rest(x * alongY + y * downY, high) + rest(x * alongX + y * downX, wide);
                     int to = SIDE * y + x;
-                    ones |= (other.ones >>> from & 1L) << to;
-                    twos |= (other.twos >>> from & 1L) << to;
+                    ones |= ((other.ones >>> from) & 1L) << to;
+                    twos |= ((other.twos >>> from) & 1L) << to;
                 }
             }
             return true;
@@ -797,7 +801,8 @@ public final class OrnamentDesk {
         }
 
         int order() {
-            return Integer.bitCount(turningBits() & (1 << Net.turns(seen.hex)) - 1);
+            int turns = (1 << Net.turns(seen.hex)) - 1;
+            return Integer.bitCount(turningBits() & turns);
         }
 
         int flips() {
@@ -1071,7 +1076,7 @@ public final class OrnamentDesk {
             for (int place = 0; place < members.length; place++) {
                 boolean inside = place / SIDE < n && place % SIDE < n;
                 members[place] = 0L;
-                if (inside && (passed >>> place & 1L) == 0L) {
+                if (inside && ((passed >>> place) & 1L) == 0L) {
                     members[place] = closed(cls, n, 1L << place);
                     passed |= members[place];
                     size++;
@@ -1085,7 +1090,7 @@ public final class OrnamentDesk {
             for (int round = 0; round < PLACES; round++) {
                 long before = cells;
                 for (int place = 0; place < PLACES; place++) {
-                    if ((cells >>> place & 1L) != 0L) {
+                    if (((cells >>> place) & 1L) != 0L) {
                         cells |= brought(cls, 0, n, place) | brought(cls, 3, n, place);
                     }
                 }
