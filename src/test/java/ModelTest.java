@@ -75,7 +75,41 @@ public final class ModelTest {
         return "tellAll<" + text + ">" + last;
     }
 
+    /** A tile that a few TURNINGS and SHIFTS drawn by chance leave as it is. */
+    private static String wildText(Random chance, int most) {
+        int n = 1 + chance.nextInt(most);
+        boolean hex = chance.nextBoolean();
+        int[] up = new int[n * n];
+        for (int i = 0; i < up.length; i++) {
+            up[i] = i;
+        }
+        int makers = 1 + chance.nextInt(3);
+        for (int k = 0; k < makers; k++) {
+            int t = k == 0 && chance.nextBoolean() ? 0 : chance.nextInt(hex ? 12 : 8);
+            int sx = chance.nextBoolean() ? n / 2 : chance.nextInt(n);
+            int sy = chance.nextBoolean() ? n / 2 : chance.nextInt(n);
+            for (int i = 0; i < up.length; i++) {
+                int[] to = Plain.go(hex, t, i % n, i / n);
+                Plain.join(up, i, Plain.mod(to[1] + sy, n) * n + Plain.mod(to[0] + sx, n));
+            }
+        }
+        int colours = 2 + chance.nextInt(3);
+        int[] drawn = new int[n * n];
+        StringBuilder text = new StringBuilder(hex ? "hex;" : "");
+        for (int i = 0; i < up.length; i++) {
+            drawn[i] = chance.nextInt(colours);
+            text.append((char) ('a' + drawn[Plain.root(up, i)]));
+            if (i % n == n - 1) {
+                text.append(';');
+            }
+        }
+        return text.toString();
+    }
+
     private static String goodText(Random chance, int most) {
+        if (chance.nextInt(3) == 0) {
+            return wildText(chance, most);
+        }
         int wide = 1 + chance.nextInt(most);
         int high = 1 + chance.nextInt(most);
         int px = 1 + chance.nextInt(wide);

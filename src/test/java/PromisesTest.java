@@ -204,6 +204,8 @@ public final class PromisesTest {
         faultOf("ab cd;", 1, 3);
         faultOf("hex square;a;", 1, 4);
         faultOf("abe;", 1, 0);
+        faultOf("abz;", 1, 0);
+        faultOf("z;", 1, 0);
         faultOf("a;hexa;", 1, 2);
         faultOf("a;he;", 1, 2);
         faultOf("a;squares;", 1, 2);
@@ -586,6 +588,8 @@ public final class PromisesTest {
         classOf("baaa;aaba;", 8, 2, 2, 0, 2);
         classOf("a;", 10, 4, 4, 0, 2);
         classOf("ab;aa;", 10, 4, 4, 0, 2);
+        // Basketwork: FIRST is (4, 4), and FLIP 6, which leaves it, is a GLIDE.
+        classOf("aaaaaaaa;abbbabab;aaaaabab;abbbabab;aaaaaaaa;abababbb;ababaaaa;abababbb;", 11, 4, 2, 2, 2);
         classOf("hex;a;", 16, 6, 6, 0, 6);
         // x + y, and x - y: the latter comes again by (1, 1), (2, -1), and a third of a turn leaves it.
         classOf("hex;abc;bca;cab;", 4, 1, 1, 0, 1);
