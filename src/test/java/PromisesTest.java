@@ -1,15 +1,7 @@
-import java.nio.charset.StandardCharsets;
 import java.util.NoSuchElementException;
 
 /** Promise by promise: ordinary inputs, the edges that the document names, wrong inputs; answers found by hand. */
-public final class PromisesTest {
-    private static final int NONE = -1;
-    private static final int[] FAR = {Integer.MIN_VALUE, Integer.MIN_VALUE + 1, -1000, 1000, Integer.MAX_VALUE};
-
-    private static int wrong = 0;
-    private static int checks = 0;
-    private static int promise = 0;
-
+public final class PromisesTest extends Checks {
     public static void main(String[] args) {
         newObject();
         tell();
@@ -44,74 +36,11 @@ public final class PromisesTest {
         better();
         image();
         again();
-        System.out.println(checks + " answers looked at, " + wrong + " not as due");
-        if (wrong != 0) {
-            System.exit(1);
-        }
-    }
-
-    private static void due(String what, long got, long want) {
-        checks++;
-        if (got != want) {
-            wrong++;
-            System.out.println("promise " + promise + ": " + what + " answered " + got + ", due is " + want);
-        }
-    }
-
-    private static void yes(String what, boolean got) {
-        due(what, got ? 1 : 0, 1);
-    }
-
-    private static void no(String what, boolean got) {
-        due(what, got ? 1 : 0, 0);
-    }
-
-    private static long eight(String text) {
-        byte[] bytes = text.getBytes(StandardCharsets.ISO_8859_1);
-        long all = 0;
-        for (int k = 0; k < 8; k++) {
-            all = all << 8 | (k < bytes.length ? bytes[k] & 255 : 0);
-        }
-        return all;
-    }
-
-    private static void say(OrnamentDesk desk, String text) {
-        for (int at = 0; at < text.length(); at += 8) {
-            desk.tell(eight(text.substring(at, Math.min(text.length(), at + 8))));
-        }
-    }
-
-    private static OrnamentDesk desk(String text) {
-        OrnamentDesk desk = new OrnamentDesk();
-        say(desk, text);
-        if (desk.read() < 1) {
-            due("read() of " + text, NONE, 1);
-        }
-        return desk;
-    }
-
-    /** The tile as a text, by cell() and count() alone. */
-    private static String show(OrnamentDesk desk) {
-        StringBuilder all = new StringBuilder(desk.count(2) == 1 ? "hex;" : "");
-        for (int y = 0; y < desk.count(1); y++) {
-            for (int x = 0; x < desk.count(0); x++) {
-                all.append((char) ('a' + desk.cell(x, y)));
-            }
-            all.append(';');
-        }
-        return all.toString();
-    }
-
-    private static void shows(String what, OrnamentDesk desk, String want) {
-        checks++;
-        if (!show(desk).equals(want)) {
-            wrong++;
-            System.out.println("promise " + promise + ": " + what + " left " + show(desk) + ", due is " + want);
-        }
+        end();
     }
 
     private static void newObject() {
-        promise = 1;
+        promise(1);
         OrnamentDesk desk = new OrnamentDesk();
         shows("a new object", desk, "aaaa;aaaa;aaaa;aaaa;");
         due("count(12)", desk.count(12), 0);
@@ -123,7 +52,7 @@ public final class PromisesTest {
     }
 
     private static void tell() {
-        promise = 2;
+        promise(2);
         OrnamentDesk desk = new OrnamentDesk();
         due("tell of nothing", desk.tell(0L), 0);
         due("tell of two", desk.tell(eight("ab")), 2);
@@ -144,7 +73,7 @@ public final class PromisesTest {
     }
 
     private static void read() {
-        promise = 3;
+        promise(3);
         OrnamentDesk desk = new OrnamentDesk();
         desk.paint(0, 0, 1);
         desk.net(true);
@@ -165,7 +94,7 @@ public final class PromisesTest {
     }
 
     private static void readRefused() {
-        promise = 3;
+        promise(3);
         OrnamentDesk desk = desk("hex;ab;cd;");
         desk.paint(0, 0, 3);
         say(desk, "aaa;bb;");
@@ -191,7 +120,7 @@ public final class PromisesTest {
     }
 
     private static void fault() {
-        promise = 4;
+        promise(4);
         faultOf("", 1, 0);
         faultOf(" \n ", 1, 3);
         faultOf("hex;", 1, 4);
@@ -246,7 +175,7 @@ public final class PromisesTest {
     }
 
     private static void paint() {
-        promise = 5;
+        promise(5);
         OrnamentDesk desk = desk("aaa;aaa;");
         yes("paint", desk.paint(2, 1, 3));
         yes("paint", desk.paint(0, 0, 1));
@@ -269,7 +198,7 @@ public final class PromisesTest {
     }
 
     private static void shift() {
-        promise = 6;
+        promise(6);
         OrnamentDesk desk = desk("abc;ddd;");
         yes("shift", desk.shift(1, 0));
         shows("shift(1, 0)", desk, "cab;ddd;");
@@ -301,7 +230,7 @@ public final class PromisesTest {
     }
 
     private static void turn() {
-        promise = 7;
+        promise(7);
         String[] square = {"abc;ddd;aca;", "ada;bdc;cda;"};
         OrnamentDesk desk = desk(square[0]);
         // (x, y) comes to (-y, x): new (0, 1) was (1, 0), new (2, 0) was (0, 1).
@@ -350,7 +279,7 @@ public final class PromisesTest {
     }
 
     private static void dye() {
-        promise = 8;
+        promise(8);
         OrnamentDesk desk = desk("abc;bba;");
         yes("dye", desk.dye(0, 1));
         shows("dye(0, 1)", desk, "bac;aab;");
@@ -368,7 +297,7 @@ public final class PromisesTest {
     }
 
     private static void net() {
-        promise = 9;
+        promise(9);
         OrnamentDesk desk = desk("ab;cd;");
         no("SQUARE already", desk.net(false));
         yes("HEX", desk.net(true));
@@ -380,7 +309,7 @@ public final class PromisesTest {
     }
 
     private static void make() {
-        promise = 10;
+        promise(10);
         OrnamentDesk desk = new OrnamentDesk();
         due("make p1", desk.make(0, 3, 4, 77), 9);
         long x = 77;
@@ -421,7 +350,7 @@ public final class PromisesTest {
 
     /** The TURNINGS that make a class and the words that tell one are apart in the document: they must agree. */
     private static void makeIsOfItsClass() {
-        promise = 10;
+        promise(10);
         for (int cls = 0; cls < 17; cls++) {
             int alike = 0;
             for (int seed = 1; seed <= 20; seed++) {
@@ -435,7 +364,7 @@ public final class PromisesTest {
     }
 
     private static void mend() {
-        promise = 11;
+        promise(11);
         OrnamentDesk desk = desk("ab;aa;");
         due("mend of p4", desk.mend(9), 1);
         shows("of several the least", desk, "aa;aa;");
@@ -465,7 +394,7 @@ public final class PromisesTest {
     }
 
     private static void reduce() {
-        promise = 12;
+        promise(12);
         OrnamentDesk desk = desk("hex;abab;abab;");
         due("reduce", desk.reduce(), 2);
         shows("reduce", desk, "hex;ab;");
@@ -487,7 +416,7 @@ public final class PromisesTest {
     }
 
     private static void undo() {
-        promise = 13;
+        promise(13);
         OrnamentDesk desk = new OrnamentDesk();
         due("undo at first", desk.undo(), NONE);
         for (int k = 0; k < 10; k++) {
@@ -528,7 +457,7 @@ public final class PromisesTest {
     }
 
     private static void count() {
-        promise = 14;
+        promise(14);
         OrnamentDesk desk = desk("ab;ba;");
         // FLIPS 6 and 7 part the STEPS (1, 1) and (1, -1), FLIPS 4 and 5 do not.
         int[] dues = {2, 2, 0, 2, 2, 4, 10, 4, 0, 2, 2, 2, 0, 0, 255};
@@ -571,7 +500,7 @@ public final class PromisesTest {
     }
 
     private static void classes() {
-        promise = 14;
+        promise(14);
         classOf("abc;aad;aaa;", 0, 1, 0, 0, 0);
         // 7 and (2, 2) leaves x - y as it is.
         classOf("abc;dab;cda;", 4, 1, 1, 0, 1);
@@ -597,7 +526,7 @@ public final class PromisesTest {
     }
 
     private static void cell() {
-        promise = 15;
+        promise(15);
         OrnamentDesk desk = desk("abc;dab;");
         due("cell", desk.cell(0, 0), 0);
         due("cell", desk.cell(2, 0), 2);
@@ -620,7 +549,7 @@ public final class PromisesTest {
     }
 
     private static void step() {
-        promise = 16;
+        promise(16);
         stepsOf("a;", 1, 0, 1, 0, 1, 1);
         stepsOf("hex;a;", 1, 0, 1, 1, -1, 1);
         stepsOf("ab;ba;", 1, 1, 2, 1, -1, 2);
@@ -645,7 +574,7 @@ public final class PromisesTest {
     }
 
     private static void shifts() {
-        promise = 17;
+        promise(17);
         OrnamentDesk desk = desk("ab;ba;");
         due("how many", desk.shifts(0, NONE, 0), 2);
         due("first x", desk.shifts(0, 0, 0), 0);
@@ -682,7 +611,7 @@ public final class PromisesTest {
     }
 
     private static void flip() {
-        promise = 18;
+        promise(18);
         OrnamentDesk desk = desk("abcd;aabc;adcb;acba;");
         due("a GLIDE", desk.flip(5), 0);
         due("none", desk.flip(4), NONE);
@@ -712,7 +641,7 @@ public final class PromisesTest {
     }
 
     private static void centre() {
-        promise = 19;
+        promise(19);
         centresOf("a;", 32, 2, 0, 2, 0);
         centresOf("hex;a;", 30, 3, 2, 0, 1);
         centresOf("ab;", 68, 4, 0, 0, 0);
@@ -746,7 +675,7 @@ public final class PromisesTest {
     }
 
     private static void kind() {
-        promise = 20;
+        promise(20);
         OrnamentDesk desk = desk("ab;aa;");
         due("(0, 0)", desk.kind(0, 0), 0);
         due("(1, 0)", desk.kind(1, 0), 1);
@@ -774,7 +703,7 @@ public final class PromisesTest {
     }
 
     private static void strip() {
-        promise = 21;
+        promise(21);
         stripOf("abc;aaa;", 0, 1, 0, 0, 0);
         stripOf("abc;cba;", 1, 1, 0, 0, 1);
         stripOf("aab;ccd;", 2, 1, 1, 0, 0);
@@ -795,7 +724,7 @@ public final class PromisesTest {
     }
 
     private static void coloured() {
-        promise = 22;
+        promise(22);
         OrnamentDesk desk = desk("ab;ba;");
         due("checkers", desk.coloured(0, false), 4);
         due("checkers, plain", desk.coloured(0, true), 2);
@@ -824,7 +753,7 @@ public final class PromisesTest {
     }
 
     private static void like() {
-        promise = 23;
+        promise(23);
         OrnamentDesk desk = desk("abcb;dacd;aacb;bbdb;");
         due("no image", desk.like(0), -2);
         desk.image(0);
@@ -863,7 +792,7 @@ public final class PromisesTest {
     }
 
     private static void flaws() {
-        promise = 24;
+        promise(24);
         OrnamentDesk desk = desk("ab;aa;");
         due("p1", desk.flaws(0), 0);
         due("pg", desk.flaws(3), 1);
@@ -891,7 +820,7 @@ public final class PromisesTest {
     }
 
     private static void orbit() {
-        promise = 25;
+        promise(25);
         OrnamentDesk desk = new OrnamentDesk();
         due("p4 about (0, 0)", desk.orbit(9, 0, 0, false), 1);
         due("p4 of (1, 0)", desk.orbit(9, 1, 0, false), 4);
@@ -927,7 +856,7 @@ public final class PromisesTest {
     }
 
     private static void nearest() {
-        promise = 26;
+        promise(26);
         due("all alike", desk("aa;aa;").nearest(0), 11);
         due("checkers", desk("ab;ba;").nearest(0), 11);
         OrnamentDesk desk = desk("ab;ab;");
@@ -946,7 +875,7 @@ public final class PromisesTest {
     }
 
     private static void painted() {
-        promise = 27;
+        promise(27);
         OrnamentDesk desk = new OrnamentDesk();
         due("one dot", desk.painted(0, 0, 1), 10);
         due("its own", desk.painted(3, 3, 0), 10);
@@ -971,7 +900,7 @@ public final class PromisesTest {
     }
 
     private static void better() {
-        promise = 28;
+        promise(28);
         OrnamentDesk desk = desk("ab;aa;");
         due("the dot away", desk.better(), 4);
         shows("better", desk, "ab;aa;");
@@ -985,7 +914,7 @@ public final class PromisesTest {
     }
 
     private static void image() {
-        promise = 29;
+        promise(29);
         OrnamentDesk desk = desk("ab;cd;");
         yes("image(0)", desk.image(0));
         yes("image(2)", desk.image(2));
@@ -1007,7 +936,7 @@ public final class PromisesTest {
     }
 
     private static void again() {
-        promise = 30;
+        promise(30);
         OrnamentDesk desk = desk("hex;ab;cd;");
         say(desk, "?");
         desk.read();
