@@ -118,6 +118,38 @@ abstract class Checks {
         return all.toString();
     }
 
+    /** What a desk tells of its tile: all questions that need no image, no THE TEXT and no past. */
+    static String answersOf(OrnamentDesk desk) {
+        StringBuilder all = new StringBuilder(show(desk));
+        for (int what = 0; what < 12; what++) {
+            all.append(' ').append(desk.count(what));
+        }
+        all.append(" steps");
+        for (int what = 0; what < 3; what++) {
+            all.append(' ').append(desk.step(false, what)).append(' ').append(desk.step(true, what));
+        }
+        all.append(" turnings");
+        for (int turning = 0; turning < 12; turning++) {
+            all.append(' ').append(desk.shifts(turning, NONE, 0)).append(' ').append(desk.shifts(turning, 0, 0));
+            all.append(' ').append(desk.flip(turning)).append(' ').append(desk.coloured(turning, false));
+        }
+        all.append(" centres");
+        for (int m = 1; m <= 6; m++) {
+            all.append(' ').append(desk.centre(m, NONE, 0)).append(' ').append(desk.centre(m, 1, 0));
+        }
+        all.append(" strip");
+        for (int what = 0; what < 5; what++) {
+            all.append(' ').append(desk.strip(what));
+        }
+        all.append(" classes");
+        for (int cls = 0; cls < 17; cls++) {
+            all.append(' ').append(desk.flaws(cls)).append(' ').append(desk.orbit(cls, 0, 0, false));
+        }
+        all.append(" kind ").append(desk.kind(-1, 1)).append(" nearest ").append(desk.nearest(2));
+        all.append(" painted ").append(desk.painted(0, 0, 3)).append(' ').append(desk.painted(0, 0, 1));
+        return all.append(" better ").append(desk.better()).toString();
+    }
+
     /** All that a desk can tell of what it holds; its past, THE TEXT and its tile are used up by it. */
     static String allOf(OrnamentDesk desk) {
         StringBuilder all = new StringBuilder("now " + pageOf(desk));

@@ -455,6 +455,9 @@ public final class EdgesOfPromisesTest extends Checks {
             desk = desk("dcb;acc;dba;");
             due("all unlike, and two of c", desk.mend(9), 5);
             shows("the least; c", desk, "daa;acc;acc;");
+            desk = desk("bc;ac;");
+            due("pg, (0, 0) too", desk.mend(3), 1);
+            shows("pg, (0, 0) too", desk, "ac;ac;");
         });
         edge("NONE: as flaws();", () -> {
             OrnamentDesk desk = desk("abc;dda;bca;");
@@ -516,6 +519,17 @@ public final class EdgesOfPromisesTest extends Checks {
         });
     }
 
+    private static void act(OrnamentDesk desk, int which) {
+        switch (which) {
+            case 0: yes("paint()", desk.paint(0, 0, 3)); break;
+            case 1: yes("shift()", desk.shift(1, 1)); break;
+            case 2: yes("turn()", desk.turn(6)); break;
+            case 3: yes("dye()", desk.dye(0, 1)); break;
+            case 4: yes("net()", desk.net(false)); break;
+            default: due("mend()", desk.mend(16), 4);
+        }
+    }
+
     private static void undo() {
         promise(13);
         edge("The latest ACT is UNDONE: how many more can be.", () -> {
@@ -529,6 +543,16 @@ public final class EdgesOfPromisesTest extends Checks {
             due("another ACT behind it", desk.undo(), 1);
             due("undo()", desk.undo(), 0);
             shows("all", desk, "abcd;");
+            // Of what was UNDONE nothing comes into a later ACT.
+            String[] dues = {"hex;dbc;dda;aab;", "hex;baa;cab;add;", "hex;ada;bda;cab;", "hex;bac;ddb;bba;", "abc;dda;aab;",
+                "hex;aaa;aba;aab;"};
+            for (int act = 0; act < dues.length; act++) {
+                desk = desk("hex;abc;dda;aab;");
+                desk.make(11, 8, 4, 6);
+                desk.undo();
+                act(desk, act);
+                shows("ACT " + act + " behind it", desk, dues[act]);
+            }
         });
         edge("NONE: none can.", () -> {
             due("at first", new OrnamentDesk().undo(), NONE);
@@ -672,6 +696,12 @@ public final class EdgesOfPromisesTest extends Checks {
                 due("step(" + (k >= 3) + ", " + k % 3 + ")", desk.step(k >= 3, k % 3), dues[k]);
             }
             due("a y below 0", desk("hex;d;").step(true, 1), -1);
+            desk = desk("hex;ab;");
+            due("of the TILE now", desk.step(true, 2), 3);
+            desk.paint(0, 0, 1);
+            due("of the TILE now", desk.step(true, 2), 1);
+            desk.undo();
+            due("of the TILE now", desk.step(true, 2), 3);
         });
         edge("NoSuchElementException: another what.", () -> {
             for (int what : new int[] {-1, 3, 4, Integer.MIN_VALUE, Integer.MAX_VALUE}) {
@@ -888,6 +918,10 @@ public final class EdgesOfPromisesTest extends Checks {
             desk.image(0);
             desk.paint(0, 0, 1);
             due("painted", desk.like(0), NONE);
+            desk = desk("ab;");
+            desk.image(0);
+            desk.paint(1, 0, 0);
+            due("all alike now", desk.like(0), NONE);
             desk = new OrnamentDesk();
             desk.image(0);
             desk.net(true);
@@ -989,6 +1023,7 @@ public final class EdgesOfPromisesTest extends Checks {
             due("2", desk.nearest(2), 11);
             due("any", desk.nearest(Integer.MAX_VALUE), 11);
             due("p1 alone", desk("abc;aad;aaa;").nearest(0), 0);
+            due("64 ORBITS", desk(WILD).nearest(0), 0);
         });
         edge("of several the greatest class", () -> {
             due("pg, pmg, pgg, p4g of 2", desk("aa;aa;").nearest(0), 11);
@@ -1012,7 +1047,13 @@ public final class EdgesOfPromisesTest extends Checks {
             due("3", desk.painted(1, 0, 3), 5);
             shows("as it was", desk, "ab;");
             due("CLASS now", desk.count(6), 5);
-            due("8 by 8", desk("hex;" + ALIKE_6).painted(5, 5, 3), 16);
+            due("6 by 6", desk("hex;" + ALIKE_6).painted(5, 5, 3), 16);
+            desk = desk("ab;ba;");
+            due("a dot", desk.painted(0, 0, 1), 10);
+            due("checkers", desk.painted(0, 0, 0), 10);
+            due("three COLOURS", desk.painted(0, 0, 2), 10);
+            desk = desk("aabb;aabb;");
+            due("its own, PARTED", desk.painted(0, 0, 0), 5);
         });
         edge("NONE: there is no such CELL, COLOUR.", () -> {
             OrnamentDesk desk = desk("ab;");
@@ -1050,6 +1091,10 @@ public final class EdgesOfPromisesTest extends Checks {
             // Fewer at (0, 0), but fewest with the dot away.
             due("the dot away", desk("ab;aa;").better(), 4);
         });
+        edge("it alone being of that", () -> {
+            // With all that are of its KIND it would be all alike; alone it makes three KINDS of two.
+            due("a b a b", desk("abab;").better(), NONE);
+        });
         edge("32 y + 4 x + the COLOUR", () -> {
             due("(5, 5), 0", desk("aaaaaa;aaaaaa;aaaaaa;aaaaaa;aaaaaa;aaaaad;").better(), 32 * 5 + 4 * 5);
             due("(7, 0), 3", desk("dddddddc;").better(), 4 * 7 + 3);
@@ -1080,6 +1125,10 @@ public final class EdgesOfPromisesTest extends Checks {
             due("what can be UNDONE", desk.count(12), 0);
             due("read() of THE TEXT", desk.read(), 2);
             shows("read() of THE TEXT", desk, "hex;ab;");
+            say(desk, "square;cd;cd;");
+            yes("again()", desk.again(1));
+            due("read() of the TEXT that was kept", desk.read(), 2);
+            shows("read() of the TEXT that was kept", desk, "hex;ab;");
         });
         edge("0 to 2: true;", () -> {
             OrnamentDesk desk = new OrnamentDesk();

@@ -38,6 +38,43 @@ public final class EdgesOfTermsTest extends Checks {
         end();
     }
 
+    private static int[] turned(boolean hex, int turning, int x, int y) {
+        int[][] square = {{x, y}, {-y, x}, {-x, -y}, {y, -x}, {x, -y}, {-x, y}, {y, x}, {-y, -x}};
+        int[][] six = {{x, y}, {-y, x + y}, {-x - y, x}, {-x, -y}, {y, -x - y}, {x + y, -x}, {y, x}, {-y, -x},
+            {x + y, -y}, {-x - y, y}, {x, -x - y}, {-x, x + y}};
+        return hex ? six[turning] : square[turning];
+    }
+
+    /** A tile, else wild, that these leave as it is, each a TURNING and its SHIFT. */
+    private static String leftBy(boolean hex, int wide, int high, int[]... makers) {
+        int[] colour = new int[wide * high];
+        java.util.Arrays.fill(colour, NONE);
+        int drawn = 4711;
+        for (int k = 0; k < colour.length; k++) {
+            drawn = drawn * 1103515245 + 12345;
+            if (colour[k] == NONE) {
+                spread(hex, wide, colour, k, (drawn >>> 16) % 4, makers);
+            }
+        }
+        StringBuilder text = new StringBuilder(hex ? "hex;" : "");
+        for (int k = 0; k < colour.length; k++) {
+            text.append((char) ('a' + colour[k])).append(k % wide == wide - 1 ? ";" : "");
+        }
+        return text.toString();
+    }
+
+    private static void spread(boolean hex, int wide, int[] colour, int at, int ofColour, int[][] makers) {
+        if (colour[at] == NONE) {
+            colour[at] = ofColour;
+            for (int[] maker : makers) {
+                int[] to = turned(hex, maker[0], at % wide, at / wide);
+                int x = Math.floorMod(to[0] + maker[1], wide);
+                int y = Math.floorMod(to[1] + maker[2], colour.length / wide);
+                spread(hex, wide, colour, y * wide + x, ofColour, makers);
+            }
+        }
+    }
+
     private static void whatItIs() {
         part("What it is");
         edge("An object is used for at most 512 calls after it has been made", () -> {
@@ -269,12 +306,30 @@ public final class EdgesOfTermsTest extends Checks {
                 due("the first SHIFT's y", desk.shifts(4, 0, 1), 1);
                 due("by a later SHIFT", desk.flip(4), 1);
             });
+        edge("A FLIP that has SHIFTS is a MIRROR", () -> {
+            for (int flip = 4; flip < 12; flip++) {
+                mirrorAnywhere(false, flip < 8 ? flip : 7);
+                mirrorAnywhere(true, flip < 6 ? 6 : flip);
+            }
+        });
         edge("else a GLIDE.", () -> {
             OrnamentDesk desk = desk(OF_CLASS[3]);
             due("(-x, y + 2)", desk.shifts(5, 0, 1), 2);
             due("a GLIDE", desk.flip(5), 0);
             due("GLIDES", desk.count(8), 1);
             due("MIRRORS", desk.count(7), 0);
+            // Each by half a STEP that the FLIP leaves, where the STEPS are PARTED.
+            glide(false, 4, leftBy(false, 4, 6, new int[] {4, 2, 0}));
+            glide(false, 5, leftBy(false, 6, 4, new int[] {5, 0, 2}));
+            for (int net = 0; net < 2; net++) {
+                boolean hex = net == 1;
+                glide(hex, 6, leftBy(hex, 8, 8, new int[] {0, 4, 4}, new int[] {6, 2, 2}));
+                glide(hex, 7, leftBy(hex, 8, 8, new int[] {0, 4, 4}, new int[] {7, 2, -2}));
+            }
+            glide(true, 8, leftBy(true, 4, 8, new int[] {8, 2, 0}));
+            glide(true, 9, leftBy(true, 4, 8, new int[] {9, 2, -4}));
+            glide(true, 10, leftBy(true, 8, 4, new int[] {10, 4, -2}));
+            glide(true, 11, leftBy(true, 8, 4, new int[] {11, 0, 2}));
         });
         edge("It is PARTED, if each STEP is one that the FLIP leaves as it is, and one that it turns round "
             + "((0, 0) of either, too), together", () -> {
@@ -288,6 +343,25 @@ public final class EdgesOfTermsTest extends Checks {
             due("all of HEX", desk("hex;a;").count(9), 6);
             due("FLIP 6 alone", desk("abc;bda;cab;").count(9), 1);
         });
+    }
+
+    private static void mirrorAnywhere(boolean hex, int flip) {
+        OrnamentDesk desk = desk(leftBy(hex, 6, 6, new int[] {flip, 0, 0}));
+        for (int k = 0; k < 36; k++) {
+            due("FLIP " + flip + (hex ? " of HEX" : " of SQUARE") + " behind " + k + " steps", desk.flip(flip), 1);
+            due("MIRRORS", desk.count(7), 1);
+            desk.shift(1, k % 6 == 5 ? 1 : 0);
+        }
+    }
+
+    private static void glide(boolean hex, int flip, String text) {
+        OrnamentDesk desk = desk(text);
+        for (int k = 0; k < 4; k++) {
+            due("FLIP " + flip + (hex ? " of HEX, " : " of SQUARE, ") + text, desk.flip(flip), 0);
+            due("CROSSED of " + text, desk.count(9), 0);
+            due("GLIDES of " + text, desk.count(8), 1);
+            desk.shift(1, k % 2);
+        }
     }
 
     private static void classIs(String text, int cls) {
@@ -390,6 +464,14 @@ public final class EdgesOfTermsTest extends Checks {
             due("the second's y", desk.centre(2, 1, 1), 3);
             due("the last's x", desk.centre(2, 3, 0), 15);
             due("the last's y", desk.centre(2, 3, 1), 9);
+            desk = desk(leftBy(false, 8, 8, new int[] {2, 0, 0}));
+            desk.shift(1, 3);
+            int[][] dues = {{6, 18}, {30, 18}, {6, 42}, {30, 42}};
+            for (int k = 0; k < 4; k++) {
+                due("8 by 8, x of " + k, desk.centre(2, k, 0), dues[k][0]);
+                due("8 by 8, y of " + k, desk.centre(2, k, 1), dues[k][1]);
+            }
+            due("8 by 8, no more", desk.centre(2, NONE, 0), 4);
         });
         edge("It is a CENTRE of m, if m TURNS are (TURNING 0, too).", () -> {
             OrnamentDesk desk = desk("hex;a;");
@@ -500,22 +582,27 @@ public final class EdgesOfTermsTest extends Checks {
         });
     }
 
-    // On 8 by 8, the ORBIT of (1, 2): how many CELLS, and the first; done by hand, by the remainders.
-    private static final int[][] ORBIT_OF_1_2 = {{1, 17}, {2, 17}, {2, 17}, {2, 17}, {2, 10}, {4, 17}, {4, 17}, {4, 17},
-        {4, 10}, {4, 14}, {8, 10}, {8, 14}, {3, 13}, {6, 10}, {6, 13}, {6, 13}, {12, 10}};
+    // On 8 by 8, the ORBIT of (1, 2), done by hand, by the remainders: the CELLS as 10 x + y, the first one ahead.
+    private static final int[][] ORBIT_OF_1_2 = {
+        {12}, {12, 76}, {12, 72}, {12, 76}, {21, 12}, {12, 72, 16, 76}, {12, 76, 32, 56}, {12, 76, 36, 52},
+        {21, 12, 76, 67}, {61, 12, 76, 27}, {21, 61, 12, 72, 16, 76, 27, 67}, {61, 12, 76, 27, 23, 36, 65, 52},
+        {51, 12, 25}, {21, 12, 51, 25, 15, 52}, {51, 12, 25, 67, 73, 36}, {51, 12, 63, 76, 25, 37},
+        {21, 12, 63, 51, 76, 25, 37, 36, 15, 67, 52, 73}};
 
     private static void orbitOf12(int... classes) {
         for (int cls : classes) {
             OrnamentDesk desk = desk(cls >= 12 ? "hex;" + ALIKE_8 : ALIKE_8);
-            due("CELLS, class " + cls, desk.orbit(cls, 1, 2, false), ORBIT_OF_1_2[cls][0]);
-            due("the first, class " + cls, desk.orbit(cls, 1, 2, true), ORBIT_OF_1_2[cls][1]);
+            int[] cells = ORBIT_OF_1_2[cls];
+            for (int cell : cells) {
+                String what = "class " + cls + ", (" + cell / 10 + ", " + cell % 10 + ")";
+                due(what, desk.orbit(cls, cell / 10, cell % 10, false), cells.length);
+                due(what + ", the first", desk.orbit(cls, cell / 10, cell % 10, true), 8 * (cells[0] % 10) + cells[0] / 10);
+            }
         }
     }
 
-    private static void oneOrbit(String net, int cls, int x, int y, int otherX, int otherY) {
-        OrnamentDesk desk = desk(net + ALIKE_8);
-        due("class " + cls + ", (" + x + ", " + y + ") and (" + otherX + ", " + otherY + ")",
-            desk.orbit(cls, x, y, true), desk.orbit(cls, otherX, otherY, true));
+    private static void oneOrbit(int cls, int x, int y, int first) {
+        due("class " + cls + ", (" + x + ", " + y + ")", desk(ALIKE_8).orbit(cls, x, y, true), first);
     }
 
     private static void made() {
@@ -523,27 +610,15 @@ public final class EdgesOfTermsTest extends Checks {
         edge("SQUARE alone: p1 none; p2 2; pm 5; pg 5 and (0, n/2); cm 6; pmm 5, 4; pmg 2, 5 and (n/2, 0); "
             + "pgg 2, 5 and (n/2, n/2); cmm 2, 6; p4 1; p4m 1, 6; p4g 1, 7 and (n/2, n/2)", () -> {
                 orbitOf12(0, 1, 2, 3, 4, 5, 6, 7, 8, 9, 10, 11);
-                oneOrbit("", 1, 1, 2, 7, 6);
-                oneOrbit("", 2, 1, 2, 7, 2);
-                oneOrbit("", 3, 1, 2, 7, 6);
-                oneOrbit("", 3, 0, 0, 0, 4);
-                oneOrbit("", 5, 1, 2, 1, 6);
-                oneOrbit("", 6, 1, 2, 3, 2);
-                oneOrbit("", 6, 0, 3, 4, 3);
-                oneOrbit("", 7, 1, 2, 3, 6);
-                oneOrbit("", 7, 0, 0, 4, 4);
-                oneOrbit("", 11, 1, 2, 2, 3);
-                oneOrbit("", 11, 0, 0, 4, 4);
+                oneOrbit(3, 0, 4, 0);
+                oneOrbit(6, 4, 3, 24);
+                oneOrbit(7, 4, 4, 0);
+                oneOrbit(11, 4, 4, 0);
                 due("p3 on SQUARE", desk(ALIKE_8).flaws(12), NONE);
                 due("p6m on SQUARE", desk(ALIKE_8).flaws(16), NONE);
             });
         edge("HEX alone: p3 2; p3m1 2, 6; p31m 2, 7; p6 1; p6m 1, 6.", () -> {
             orbitOf12(12, 13, 14, 15, 16);
-            oneOrbit("hex;", 12, 1, 2, 2, 5);
-            oneOrbit("hex;", 13, 1, 2, 5, 2);
-            oneOrbit("hex;", 14, 1, 2, 6, 7);
-            oneOrbit("hex;", 15, 1, 2, 7, 6);
-            oneOrbit("hex;", 16, 1, 2, 7, 3);
             due("p1 on HEX", desk("hex;" + ALIKE_8).flaws(0), NONE);
             due("p4g on HEX", desk("hex;" + ALIKE_8).flaws(11), NONE);
         });
@@ -712,6 +787,10 @@ public final class EdgesOfTermsTest extends Checks {
         });
         edge("(another word, a word of 9 letters and more, too)", () -> {
             faultOf("he;", 1, 0);
+            faultOf("dex;a;", 1, 0);
+            faultOf("hey;a;", 1, 0);
+            faultOf("aquare;a;", 1, 0);
+            faultOf("squarf;a;", 1, 0);
             faultOf("a;squar;", 1, 2);
             faultOf("a;hexx;", 1, 2);
             faultOf("abcdabcd;", 0, NONE);
@@ -830,6 +909,19 @@ public final class EdgesOfTermsTest extends Checks {
             changesNothing("nearest()", d -> d.nearest(3));
             changesNothing("painted()", d -> { for (int c = -1; c < 5; c++) { d.painted(1, 1, c); } });
             changesNothing("better()", d -> d.better());
+            // Nothing of a tile that was asked about stays in the answers about the next one.
+            OrnamentDesk desk = new OrnamentDesk();
+            for (String one : OF_CLASS) {
+                for (String other : OF_CLASS) {
+                    for (String text : new String[] {one, other}) {
+                        say(desk, text);
+                        desk.read();
+                        answersOf(desk);
+                    }
+                    tells("questions of " + other + " behind " + one, answersOf(desk), answersOf(desk(other)));
+                    desk = new OrnamentDesk();
+                }
+            }
         });
         edge("Refused calls change nothing, unless it is said.", () -> {
             changesNothing("paint()", d -> { d.paint(9, 0, 1); d.paint(0, 0, d.cell(0, 0)); d.paint(0, 0, 4); });

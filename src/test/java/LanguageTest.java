@@ -5,6 +5,8 @@ import java.lang.reflect.Modifier;
 import java.nio.file.Files;
 import java.nio.file.Path;
 import java.util.Arrays;
+import java.util.Map;
+import java.util.TreeMap;
 import java.util.TreeSet;
 import java.util.regex.Matcher;
 import java.util.regex.Pattern;
@@ -124,6 +126,7 @@ public final class LanguageTest {
             must(thrown.group().equals("throw new NoSuchElementException(\"\")"), "no other " + thrown.group());
         }
         must(throwing == 1, "one place that throws");
+        depth(code);
         int start = 0;
         String[] lines = text.split("\n");
         for (int k = 0; k < lines.length; k++) {
@@ -136,5 +139,42 @@ public final class LanguageTest {
                 start = k;
             }
         }
+    }
+
+    /** Methods of one name count as one here: none of them calls its namesake by a longer way. */
+    private static void depth(String code) {
+        Matcher head = Pattern.compile("(?m)^ {4}(?: {4})?(?:(?:public|private|static|final) )*[\\w\\[\\]]+ (\\w+)\\([^)]*\\)"
+            + "(?: throws \\w+)? \\{$").matcher(code);
+        Map<String, TreeSet<String>> calls = new TreeMap<>();
+        String name = "";
+        int from = 0;
+        while (head.find()) {
+            note(calls, name, code.substring(from, head.start()));
+            name = head.group(1);
+            from = head.end();
+        }
+        note(calls, name, code.substring(from));
+        calls.remove("");
+        for (String one : calls.keySet()) {
+            must(deep(calls, one, 0) <= 8, "calls from " + one + " go at most eight deep");
+        }
+    }
+
+    private static void note(Map<String, TreeSet<String>> calls, String name, String body) {
+        TreeSet<String> called = calls.computeIfAbsent(name, none -> new TreeSet<>());
+        Matcher call = Pattern.compile("\\b(\\w+)\\(").matcher(body);
+        while (call.find()) {
+            called.add(call.group(1));
+        }
+    }
+
+    private static int deep(Map<String, TreeSet<String>> calls, String name, int above) {
+        int most = 0;
+        for (String other : calls.get(name)) {
+            if (calls.containsKey(other) && !other.equals(name) && above < 20) {
+                most = Math.max(most, deep(calls, other, above + 1));
+            }
+        }
+        return most + 1;
     }
 }
