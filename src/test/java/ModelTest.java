@@ -2,9 +2,9 @@ import java.util.NoSuchElementException;
 import java.util.Random;
 
 /**
- * Runs of calls drawn by chance, each asked of OrnamentDesk and of a second desk that is written straight
- * from the document's words: cells in a plain array, and every SYMMETRY looked at over a whole stretch of
- * the plane. It shares no code and no short cut with the class under test.
+ * All small tiles, and runs of calls drawn by chance, each asked of OrnamentDesk and of a second desk that is
+ * written straight from the document's words: cells in a plain array, and every SYMMETRY looked at over a whole
+ * stretch of the plane. It shares no code and no short cut with the class under test.
  */
 public final class ModelTest {
     private static int wrong = 0;
@@ -14,12 +14,85 @@ public final class ModelTest {
     public static void main(String[] args) {
         int runs = args.length > 0 ? Integer.parseInt(args[0]) : 260;
         int from = args.length > 1 ? Integer.parseInt(args[1]) : 1;
+        allTiles(2, 6);
+        allTiles(3, 4);
         for (int seed = from; seed < from + runs && wrong < 20; seed++) {
             run(seed);
         }
         System.out.println(asked + " answers compared, " + wrong + " not as due");
         if (wrong != 0) {
             System.exit(1);
+        }
+    }
+
+    /** Each tile of so many colours and at most so many cells, on either net. */
+    private static void allTiles(int colours, int mostCells) {
+        for (int high = 1; high <= 8; high++) {
+            for (int wide = 1; wide <= 8 && wide * high <= mostCells; wide++) {
+                int tiles = 1;
+                for (int cell = 0; cell < wide * high; cell++) {
+                    tiles *= colours;
+                }
+                for (int number = 0; number < tiles && wrong < 20; number++) {
+                    String rows = rowsOf(number, colours, wide, high);
+                    askAll(rows);
+                    askAll("hex;" + rows);
+                }
+            }
+        }
+    }
+
+    private static String rowsOf(int number, int colours, int wide, int high) {
+        StringBuilder rows = new StringBuilder();
+        int left = number;
+        for (int y = 0; y < high; y++) {
+            for (int x = 0; x < wide; x++) {
+                rows.append((char) ('a' + left % colours));
+                left /= colours;
+            }
+            rows.append(';');
+        }
+        return rows.toString();
+    }
+
+    private static void askAll(String text) {
+        int before = wrong;
+        OrnamentDesk desk = new OrnamentDesk();
+        Plain plain = new Plain();
+        tellAll(desk, plain, text);
+        same("read()", desk.read(), plain.read());
+        for (int what = 0; what < 15; what++) {
+            same("count(" + what + ")", desk.count(what), plain.count(what));
+        }
+        for (int what = 0; what < 3; what++) {
+            same("step(false," + what + ")", stepOf(desk, false, what), plain.step(false, what));
+            same("step(true," + what + ")", stepOf(desk, true, what), plain.step(true, what));
+        }
+        for (int t = 0; t < plain.turnings(); t++) {
+            same("shifts(" + t + ",-1,0)", desk.shifts(t, -1, 0), plain.shifts(t, -1, 0));
+            same("shifts(" + t + ",0,0)", desk.shifts(t, 0, 0), plain.shifts(t, 0, 0));
+            same("shifts(" + t + ",0,1)", desk.shifts(t, 0, 1), plain.shifts(t, 0, 1));
+            same("flip(" + t + ")", desk.flip(t), plain.flip(t));
+            same("coloured(" + t + ",false)", desk.coloured(t, false), plain.coloured(t, false));
+        }
+        for (int m = 1; m <= 6; m++) {
+            same("centre(" + m + ",-1,0)", desk.centre(m, -1, 0), plain.centre(m, -1, 0));
+            same("centre(" + m + ",1,0)", desk.centre(m, 1, 0), plain.centre(m, 1, 0));
+            same("centre(" + m + ",1,1)", desk.centre(m, 1, 1), plain.centre(m, 1, 1));
+        }
+        for (int y = 0; y < plain.high; y++) {
+            for (int x = 0; x < plain.wide; x++) {
+                same("kind(" + x + "," + y + ")", desk.kind(x, y), plain.kind(x, y));
+                same("painted(" + x + "," + y + ",0)", desk.painted(x, y, 0), plain.painted(x, y, 0));
+            }
+        }
+        for (int what = 0; what < 5; what++) {
+            same("strip(" + what + ")", desk.strip(what), plain.strip(what));
+        }
+        same("nearest(1)", desk.nearest(1), plain.nearest(1));
+        same("better()", desk.better(), plain.better());
+        if (wrong != before) {
+            System.out.println("   tile " + text);
         }
     }
 
